@@ -109,7 +109,7 @@ public final class SlabYard {
     // ---- what is done
 
     public int lays(int size, int x, int y) {
-        if (size < 0 || size >= SIZES || !plot.has(x, y)) {
+        if (!isSize(size) || !plot.has(x, y)) {
             return BAD;
         }
         int number = numberOf(x, y);
@@ -151,11 +151,7 @@ public final class SlabYard {
     }
 
     public int undo() {
-        if (ground.done <= 0) {
-            return STATE;
-        }
-        ground.goBack();
-        return ground.done;
+        return ground.goBack() ? ground.done : STATE;
     }
 
     public int now(int what) {
@@ -184,7 +180,7 @@ public final class SlabYard {
     }
 
     public int stock(int size) {
-        return size < 0 || size >= SIZES ? BAD : ground.stock[size];
+        return isSize(size) ? ground.stock[size] : BAD;
     }
 
     // ---- water
@@ -236,14 +232,14 @@ public final class SlabYard {
     // ---- plans, ways
 
     public int plan(int c) {
-        if (c != -1 && (c < 0 || c >= CELLS || !holds(plot.cells(), c))) {
+        if (c != -1 && !(isNumber(c) && holds(plot.cells(), c))) {
             return BAD;
         }
         planner.search(plot, ground);
         if (planner.fewest == NONE) {
             return NONE;
         }
-        return c == -1 ? planner.fewest : planner.chosen[c];
+        return isNumber(c) ? planner.chosen[c] : planner.fewest;
     }
 
     public int barrow(int x, int y) {
@@ -437,13 +433,22 @@ public final class SlabYard {
         return (cells << SIDE | cells >> SIDE | (cells & HAVE_RIGHT) << 1 | (cells & HAVE_LEFT) >> 1) & ALL_CELLS;
     }
 
-    private static int shapeAt(int size, int number) {
-        return SHAPES[size] << number;
+    private static boolean isSize(int size) {
+        return size >= 0 && size < SIZES;
+    }
+
+    private static boolean isNumber(int number) {
+        return number >= 0 && number < CELLS;
+    }
+
+    /** The bits that a table has by SIZE, for a slab that lies there. */
+    private static int bitsAt(int[] bitsBySize, int size, int number) {
+        return size >= 0 && size < bitsBySize.length ? bitsBySize[size] << number : 0;
     }
 
     /** The width is looked at for itself: the bits of a slab that is too wide run on in the next row. */
     private static boolean fits(int size, int number, int free) {
-        return number % SIDE + WIDTHS[size] <= SIDE && (shapeAt(size, number) & ~free) == 0;
+        return isSize(size) && number % SIDE + WIDTHS[size] <= SIDE && (bitsAt(SHAPES, size, number) & ~free) == 0;
     }
 
     /** The upper left cells of the points where four slabs meet. */
@@ -505,9 +510,7 @@ public final class SlabYard {
         Plot() {
             heights = new int[CELLS];
             stock = new int[SIZES];
-            for (int size = 0; size < SIZES; size++) {
-                stock[size] = FIRST_STOCK;
-            }
+            wipe();
         }
 
         /** All as at first. */
@@ -573,6 +576,8 @@ public final class SlabYard {
     /** THE TEXT, and what it tells, token by token; begin is where the token begins that was read last. */
     private static final class Reader {
         static final int END = 0, WORD = 1, NUMBER = 2, STOP = 3, WRONG = 4;
+        // The value of letters that are more than one, of a number above 99 or with a 0 ahead: it stands nowhere.
+        static final int UNFIT = -1;
 
         final int[] bytes;
         int length;
@@ -611,17 +616,18 @@ public final class SlabYard {
                 if (token == END) {
                     return items;
                 }
-                if (!readItem(items)) {
+                if (token != WORD || !readTold(value, items)) {
+                    return FAULT_BASE - begin;
+                }
+                readToken();
+                if (token != STOP) {
                     return FAULT_BASE - begin;
                 }
             }
             return FAULT_BASE - length;
         }
 
-        boolean readItem(int itemsAhead) {
-            return token == WORD && readTold(value, itemsAhead) && readStop();
-        }
-
+        /** What an item of this letter tells; if it faults, the token that was read last is to blame. */
         boolean readTold(int letter, int itemsAhead) {
             boolean yardTold = told.wide > 0;
             switch (letter) {
@@ -630,11 +636,10 @@ public final class SlabYard {
                 case 'r':
                     return yardTold && !rowsEnded && told.rows < SIDE && readRow();
                 case 'l':
-                    return yardTold && readLid();
                 case 'd':
-                    return yardTold && readDrain();
+                    return yardTold && readCell(letter);
                 case 'o':
-                    return yardTold && !doorTold && readDoor();
+                    return yardTold && !doorTold && readCell(letter);
                 case 's':
                     return !stockTold && readStock();
                 default:
@@ -661,31 +666,30 @@ public final class SlabYard {
             return true;
         }
 
-        boolean readLid() {
-            int number = readCell();
-            if (number == NONE || told.sortOf(number) != 0) {
+        /** An X and a Y: a lid, a drain or the door. */
+        boolean readCell(int letter) {
+            rowsEnded = true;
+            if (!readNumber(0, told.wide - 1)) {
                 return false;
             }
-            told.lids |= 1 << number;
-            return true;
-        }
-
-        boolean readDrain() {
-            int number = readCell();
-            if (number == NONE || told.sortOf(number) != 0) {
+            int x = value;
+            if (!readNumber(0, told.rows - 1)) {
                 return false;
             }
-            told.drains |= 1 << number;
-            return true;
-        }
-
-        boolean readDoor() {
-            int number = readCell();
-            if (number == NONE) {
+            int number = numberOf(x, value);
+            if (letter == 'o') {
+                told.door = number;
+                doorTold = true;
+                return true;
+            }
+            if (told.sortOf(number) != 0) {
                 return false;
             }
-            told.door = number;
-            doorTold = true;
+            if (letter == 'l') {
+                told.lids |= 1 << number;
+            } else {
+                told.drains |= 1 << number;
+            }
             return true;
         }
 
@@ -700,24 +704,9 @@ public final class SlabYard {
             return true;
         }
 
-        /** The number of the cell that is told by an X and a Y; NONE. */
-        int readCell() {
-            rowsEnded = true;
-            if (!readNumber(0, told.wide - 1)) {
-                return NONE;
-            }
-            int x = value;
-            return readNumber(0, told.rows - 1) ? numberOf(x, value) : NONE;
-        }
-
         boolean readNumber(int low, int high) {
             readToken();
             return token == NUMBER && value >= low && value <= high;
-        }
-
-        boolean readStop() {
-            readToken();
-            return token == STOP;
         }
 
         void readToken() {
@@ -725,50 +714,35 @@ public final class SlabYard {
                 place++;
             }
             begin = place;
-            value = -1;
+            value = UNFIT;
             if (place >= length) {
                 token = END;
-            } else if (isLetter(bytes[place])) {
-                readWord();
-            } else if (isDigit(bytes[place])) {
-                readDigits();
-            } else {
-                token = bytes[place] == ';' ? STOP : WRONG;
-                place++;
+                return;
             }
-        }
-
-        /** The value of letters is the letter, if it is a single one: no item begins by more. */
-        void readWord() {
-            token = WORD;
-            while (place < length && isLetter(bytes[place])) {
-                place++;
-            }
-            if (place - begin == 1) {
-                value = bytes[begin];
-            }
-        }
-
-        /** A number of three digits, or with a 0 ahead, keeps the value -1, which stands nowhere. */
-        void readDigits() {
-            token = NUMBER;
+            token = sortOf(bytes[place]);
+            int runsTo = token == WORD || token == NUMBER ? length : begin + 1;
             int sum = 0;
-            while (place < length && isDigit(bytes[place])) {
+            while (place < runsTo && sortOf(bytes[place]) == token) {
                 sum = sum * 10 + bytes[place] - '0';
                 place++;
             }
-            int digits = place - begin;
-            if (digits == 1 || digits == 2 && sum >= 10) {
+            int signs = place - begin;
+            if (token == WORD && signs == 1) {
+                value = bytes[begin];
+            }
+            if (token == NUMBER && (signs == 1 || signs == 2 && sum >= 10)) {
                 value = sum;
             }
         }
 
-        static boolean isLetter(int c) {
-            return c >= 'a' && c <= 'z';
-        }
-
-        static boolean isDigit(int c) {
-            return c >= '0' && c <= '9';
+        static int sortOf(int c) {
+            if (c >= 'a' && c <= 'z') {
+                return WORD;
+            }
+            if (c >= '0' && c <= '9') {
+                return NUMBER;
+            }
+            return c == ';' ? STOP : WRONG;
         }
     }
 
@@ -862,6 +836,9 @@ public final class SlabYard {
         }
 
         void put(int size, int number, boolean isOfToday) {
+            if (!isSize(size) || !isNumber(number)) {
+                return;
+            }
             slabs[number] = size;
             stock[size]--;
             if (isOfToday) {
@@ -871,7 +848,7 @@ public final class SlabYard {
 
         void take(int slab) {
             int size = slabs[slab];
-            if (size != NONE) {
+            if (isSize(size)) {
                 stock[size]++;
             }
             slabs[slab] = NONE;
@@ -893,7 +870,11 @@ public final class SlabYard {
             done++;
         }
 
-        void goBack() {
+        /** Whether there was anything to be undone. */
+        boolean goBack() {
+            if (done <= 0) {
+                return false;
+            }
             done--;
             int where = doneWhere[done];
             int before = doneBefore[done];
@@ -912,6 +893,7 @@ public final class SlabYard {
                     days--;
                     break;
             }
+            return true;
         }
 
         /** The slab that lies on a cell; NONE. */
@@ -925,7 +907,7 @@ public final class SlabYard {
         }
 
         int cellsOf(int slab) {
-            return slabs[slab] == NONE ? 0 : shapeAt(slabs[slab], slab);
+            return bitsAt(SHAPES, slabs[slab], slab);
         }
 
         boolean isTodays(int slab) {
@@ -960,10 +942,7 @@ public final class SlabYard {
         int joined(int[] bitsBySize) {
             int bits = 0;
             for (int slab = 0; slab < CELLS; slab++) {
-                int size = slabs[slab];
-                if (size != NONE && size < bitsBySize.length) {
-                    bits |= bitsBySize[size] << slab;
-                }
+                bits |= bitsAt(bitsBySize, slabs[slab], slab);
             }
             return bits;
         }
@@ -999,8 +978,9 @@ public final class SlabYard {
             }
             tiers[0] = plot.drains;
             for (int number = 0; number < CELLS; number++) {
-                if (holds(dry, number)) {
-                    tiers[ground.heights[number] + 1] |= 1 << number;
+                int tier = ground.heights[number] + 1;
+                if (holds(dry, number) && tier > 0 && tier < TIERS) {
+                    tiers[tier] |= 1 << number;
                 }
             }
         }
@@ -1168,9 +1148,9 @@ public final class SlabYard {
             int number = Integer.bitCount((free & -free) - 1);
             for (int size = 0; size < SIZES; size++) {
                 if (planner.left[size] > 0 && fits(size, number, free)) {
-                    int coveredThen = covered | shapeAt(size, number);
-                    int rightThen = right | JOINED_RIGHT[size] << number;
-                    int downThen = down | JOINED_DOWN[size] << number;
+                    int coveredThen = covered | bitsAt(SHAPES, size, number);
+                    int rightThen = right | bitsAt(JOINED_RIGHT, size, number);
+                    int downThen = down | bitsAt(JOINED_DOWN, size, number);
                     if (crossPoints(coveredThen, rightThen, downThen) == 0) {
                         planner.left[size]--;
                         planner.tried[number] = size;

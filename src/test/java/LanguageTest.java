@@ -121,9 +121,10 @@ public final class LanguageTest {
 
     /** Rows are made by constructors alone: a call makes nothing. */
     private static void objects(String bare) {
+        String forField = "\\s+\\w+ = new \\w+(\\(\\)|\\[\\w+\\]);";
         for (String line : bare.split("\n")) {
             if (line.contains("new ")) {
-                must("made for a field: " + line.trim(), line.matches("\\s+\\w+ = new \\w+(\\(\\)|\\[\\w+( \\+ \\d)?\\]);"));
+                must("made for a field: " + line.trim(), line.matches(forField));
             }
         }
     }

@@ -206,6 +206,12 @@ public final class PromiseTest {
         reads("s1 2 3;", -16);
         reads("s1 2 3 4 5;", -19);
         reads("w1;rl1;", -13);
+        reads("sa1 1 1 1;", -10);
+        reads("sz1 1 1 1;", -10);
+        reads("s`1 1 1 1;", -11);
+        reads("s{1 1 1 1;", -11);
+        reads("w/4;", -11);
+        reads("w:4;", -11);
         reads("w1;r1;l 0 0", -21);
         reads("w1;r1;l 0", -19);
         reads("w1;r1;l 0x", -19);
@@ -461,11 +467,11 @@ public final class PromiseTest {
 
     private static void mends(String text, int which, int height, int left) {
         SlabYard y = Check.told(text);
-        long traceAhead = y.now(3);
+        int puddlesAhead = y.now(3);
         due("mend 0 of " + text, y.mend(0), which);
         due("mend 1 of " + text, y.mend(1), height);
         due("mend 2 of " + text, y.mend(2), left);
-        due("nothing is changed by it", y.now(3), traceAhead);
+        due("nothing is changed by it", y.now(3), puddlesAhead);
     }
 
     private static void promise15Mend() {
