@@ -94,11 +94,11 @@ public final class SlabYard {
         int slab = ground.slabOn(number);
         switch (what) {
             case 0:
-                return ground.heights[number];
+                return ground.heightOf(number);
             case 1:
                 return plot.sortOf(number);
             case 2:
-                return slab == NONE ? NONE : ground.slabs[slab];
+                return ground.sizeOf(slab);
             case 3:
                 return slab;
             default:
@@ -136,7 +136,7 @@ public final class SlabYard {
             return BAD;
         }
         int number = numberOf(x, y);
-        if (holds(plot.drains, number) || ground.heights[number] == h) {
+        if (holds(plot.drains, number) || ground.heightOf(number) == h) {
             return STATE;
         }
         return ground.raise(number, h);
@@ -382,7 +382,7 @@ public final class SlabYard {
 
     private int markCell(int number) {
         traced += 1;
-        return ground.heights[number];
+        return ground.heightOf(number);
     }
 
     private int markTrue(int number) {
@@ -448,7 +448,8 @@ public final class SlabYard {
 
     /** The width is looked at for itself: the bits of a slab that is too wide run on in the next row. */
     private static boolean fits(int size, int number, int free) {
-        return isSize(size) && number % SIDE + WIDTHS[size] <= SIDE && (bitsAt(SHAPES, size, number) & ~free) == 0;
+        return isSize(size) && isNumber(number) && number % SIDE + WIDTHS[size] <= SIDE
+            && (bitsAt(SHAPES, size, number) & ~free) == 0;
     }
 
     /** The upper left cells of the points where four slabs meet. */
@@ -657,10 +658,11 @@ public final class SlabYard {
 
         boolean readRow() {
             for (int x = 0; x < told.wide; x++) {
-                if (!readNumber(0, MOST_HEIGHT)) {
+                int number = numberOf(x, told.rows);
+                if (!readNumber(0, MOST_HEIGHT) || !isNumber(number)) {
                     return false;
                 }
-                told.heights[numberOf(x, told.rows)] = value;
+                told.heights[number] = value;
             }
             told.rows++;
             return true;
@@ -814,7 +816,7 @@ public final class SlabYard {
 
         /** Its size. */
         int lift(int slab) {
-            int size = slabs[slab];
+            int size = sizeOf(slab);
             int before = isTodays(slab) ? size + SIZES : size;
             take(slab);
             remember(LIFTED, slab, before);
@@ -823,8 +825,8 @@ public final class SlabYard {
 
         /** The height that it had. */
         int raise(int number, int height) {
-            int before = heights[number];
-            heights[number] = height;
+            int before = heightOf(number);
+            setHeight(number, height);
             remember(RAISED, number, before);
             return before;
         }
@@ -847,11 +849,12 @@ public final class SlabYard {
         }
 
         void take(int slab) {
-            int size = slabs[slab];
-            if (isSize(size)) {
-                stock[size]++;
+            int size = sizeOf(slab);
+            if (!isSize(size) || !isNumber(slab)) {
+                return;
             }
             slabs[slab] = NONE;
+            stock[size]++;
             todays &= ~(1 << slab);
         }
 
@@ -886,7 +889,7 @@ public final class SlabYard {
                     put(before % SIZES, where, before >= SIZES);
                     break;
                 case RAISED:
-                    heights[where] = before;
+                    setHeight(where, before);
                     break;
                 default:
                     todays = before;
@@ -906,8 +909,23 @@ public final class SlabYard {
             return NONE;
         }
 
+        /** The slab's size; NONE. */
+        int sizeOf(int slab) {
+            return isNumber(slab) ? slabs[slab] : NONE;
+        }
+
+        int heightOf(int number) {
+            return isNumber(number) ? heights[number] : 0;
+        }
+
+        void setHeight(int number, int height) {
+            if (isNumber(number)) {
+                heights[number] = height;
+            }
+        }
+
         int cellsOf(int slab) {
-            return bitsAt(SHAPES, slabs[slab], slab);
+            return bitsAt(SHAPES, sizeOf(slab), slab);
         }
 
         boolean isTodays(int slab) {
@@ -998,7 +1016,7 @@ public final class SlabYard {
         int onward(int number) {
             int near = beside(1 << number);
             int own = tierOf(number);
-            for (int tier = 0; tier < own; tier++) {
+            for (int tier = 0; tier < own && tier < TIERS; tier++) {
                 int lowest = near & tiers[tier];
                 if (lowest != 0) {
                     return firstAround(number, lowest);
@@ -1069,7 +1087,7 @@ public final class SlabYard {
             puddlesLeft = Integer.bitCount(water.puddles());
             for (int number = 0; number < CELLS; number++) {
                 int own = water.tierOf(number);
-                if (own > 0) {
+                if (own > 0 && own < Water.TIERS) {
                     tryHeights(water, number, own);
                 }
             }

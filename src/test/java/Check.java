@@ -1,3 +1,5 @@
+import java.util.List;
+
 /** Counts and prints the answers that are not as due. */
 final class Check {
     private final String test;
@@ -13,6 +15,25 @@ final class Check {
         if (got != want) {
             wrong++;
             System.out.println(test + ": " + call + " answered " + got + ", due is " + want);
+        }
+    }
+
+    /** The call has this answer, and everything is as it was without it. */
+    void changesNothing(String what, Scene scene, Scene.Call call, long want) {
+        due(what, call.on(scene.made()), want);
+        same(what, scene.then(call), scene);
+    }
+
+    /** Nothing tells the one scene from the other. */
+    void same(String what, Scene scene, Scene wanted) {
+        same(what, scene.everything(), wanted.everything());
+    }
+
+    void same(String what, List<String> answers, List<String> wanted) {
+        due(what + ": how much there is to ask then", answers.size(), wanted.size());
+        for (int i = 0; i < Math.min(answers.size(), wanted.size()); i++) {
+            boolean same = answers.get(i).equals(wanted.get(i));
+            due(what + ": then '" + answers.get(i) + "' for '" + wanted.get(i) + "', the same", same ? 1 : 0, 1);
         }
     }
 

@@ -1,10 +1,17 @@
-/** Long runs of calls, told by fixed numbers, on SlabYard and on the model: all answers must be the same. */
+/**
+ * Runs of calls, told by fixed numbers, on SlabYard and on the model: all answers must be the same. No object is used
+ * for more calls than the document speaks of.
+ */
 public final class ModelTest {
     private static final Check CHECK = new Check("ModelTest");
-    private static final int RUNS = 4000;
-    private static final int CALLS = 400;
+    private static final int RUNS = 20000;
+    private static final int MOST_CALLS = 512;
+    private static final int ROOM_FOR_ACT = 40;
+    private static final int ROOM_FOR_TEXT = 180;
+    private static final int ROOM_FOR_SWEEP = 300;
 
     private static long dice;
+    private static int calls;
     private static SlabYard yard;
     private static Model model;
     private static String run;
@@ -36,33 +43,59 @@ public final class ModelTest {
     }
 
     private static void due(String call, long got, long want) {
+        calls++;
         CHECK.due(run + call, got, want);
+    }
+
+    private static boolean room(int more) {
+        return calls + more <= MOST_CALLS;
     }
 
     private static void run(int number) {
         run = "run " + number + ": ";
+        calls = 0;
         yard = new SlabYard();
         model = new Model();
         if (roll(4) == 0) {
             texts();
-            return;
+        } else {
+            acts();
         }
+        CHECK.due(run + "within so many calls", room(0) ? 1 : 0, 1);
+    }
+
+    private static void acts() {
         read(plainText());
-        askAll();
-        for (int call = 0; call < CALLS && CHECK.wrongSoFar() == 0; call++) {
+        if (roll(10) == 0) {
+            for (int days = roll(102); days > 0; days--) {
+                due("day", yard.day(), model.day());
+            }
+        }
+        int sweeps = roll(4);
+        int kept = sweeps <= 1 ? ROOM_FOR_SWEEP : 0;
+        while (room(ROOM_FOR_ACT + kept) && CHECK.wrongSoFar() == 0) {
             act();
         }
-        askAll();
+        if (sweeps == 0) {
+            askCells();
+        } else if (sweeps == 1) {
+            askWays();
+        }
     }
 
     /** Texts that are mostly wrong somewhere. */
     private static void texts() {
-        for (int times = 0; times < 30; times++) {
+        while (room(ROOM_FOR_TEXT)) {
             read(roll(3) == 0 ? wildText() : broken(plainText()));
             for (int what = 0; what < 6; what++) {
                 due("count " + what, yard.count(what), model.count(what));
             }
-            askCells();
+            for (int times = 0; times < 20; times++) {
+                int x = near(4);
+                int y = near(4);
+                int what = near(5);
+                due("cell " + x + " " + y + " " + what, yard.cell(x, y, what), model.cell(x, y, what));
+            }
             if (roll(3) != 0) {
                 due("clear", yard.clear(), model.clear());
             }
@@ -185,7 +218,7 @@ public final class ModelTest {
         if (roll(8) == 0) {
             due("forget", yard.forget(), model.forget());
         }
-        if (roll(40) == 0) {
+        if (roll(10) == 0 && room(ROOM_FOR_TEXT + ROOM_FOR_SWEEP)) {
             read(plainText());
         }
     }
@@ -225,8 +258,7 @@ public final class ModelTest {
         }
     }
 
-    private static void askAll() {
-        askCells();
+    private static void askWays() {
         for (int x = -1; x <= 4; x++) {
             for (int y = -1; y <= 4; y++) {
                 due("feeds " + x + " " + y, yard.feeds(x, y), model.feeds(x, y));
@@ -247,15 +279,15 @@ public final class ModelTest {
     }
 
     private static void allOdds() {
-        run = "";
-        yard = new SlabYard();
-        model = new Model();
         for (int x = -1; x <= 11; x++) {
             for (int n = -1; n <= 7; n++) {
+                run = "odds of " + x + " " + n + ": ";
+                calls = 0;
+                yard = new SlabYard();
+                model = new Model();
                 for (int k = -1; k <= 7; k++) {
                     for (int what = -1; what <= 2; what++) {
-                        String call = "odds " + x + " " + n + " " + k + " " + what;
-                        due(call, yard.odds(x, n, k, what), model.odds(x, n, k, what));
+                        due(k + " " + what, yard.odds(x, n, k, what), model.odds(x, n, k, what));
                     }
                 }
             }
