@@ -292,6 +292,16 @@ public final class DoneBoundTest {
                 }
             }
         }
+        for (int number = 0; number <= 15; number++) {
+            SlabYard y = Check.told(FLAT);
+            due("it had, on " + number, y.raises(number % 4, number / 4, 9), 5);
+            for (int other = 0; other <= 15; other++) {
+                int due = other == number ? 9 : 5;
+                due("raised on " + number + ": " + other, y.cell(other % 4, other / 4, 0), due);
+            }
+            y.undo();
+            due("undone on " + number, y.cell(number % 4, number / 4, 0), 5);
+        }
         for (int h = 0; h <= 9; h++) {
             int to = h;
             refused("a drain by " + h, Scene.busy(), y -> y.raises(1, 3, to), STATE);
